@@ -47,6 +47,10 @@ public final class AddressTest {
         CHECKS.same("from 0", Mail.addressOf(tree, 5, 0), "|c|d");
         CHECKS.same("from 1", Mail.addressOf(tree, 5, 1), "E|f|g");
         CHECKS.same("from 2", Mail.addressOf(tree, 5, 2), "|h|i");
+        MessageTree whole = CHECKS.stands("to: a@b, C <d@e>\r\nsubject: s\r\nfrom: f@g\r\n\r\nbody", 1);
+        CHECKS.same("to beside a body", Mail.addressOf(whole, 6, 0) + " " + Mail.addressOf(whole, 6, 1), "|a|b C|d|e");
+        CHECKS.same("from beside a body", Mail.addressOf(whole, 5, 0), "|f|g");
+        CHECKS.same("body beside addresses", Mail.subjectOf(whole) + Mail.body(whole, 0), "sbody");
         String ten = "a0@b,a1@b,a2@b,a3@b,a4@b,a5@b,a6@b,a7@b,a8@b,Nine <a9@b>";
         MessageTree most = CHECKS.stands(from(ten), 1);
         CHECKS.same("ten", most.addresses(5), 10);
@@ -125,6 +129,8 @@ public final class AddressTest {
         CHECKS.faultAtMark(from("x " + sixty + "↑a <b@c>"));
         String quoted = "q".repeat(400);
         isAddress("\"" + quoted + "\" <\"" + quoted + "\"@c>", quoted + "|" + quoted + "|c");
+        String most = ("m".repeat(997) + "\r\n ").repeat(7) + "n";
+        isAddress("\r\n \"\r\n " + most + "\" <a@b>", " " + most.replace("\r\n", "") + "|a|b");
     }
 
     private static void wrongPlaces() {

@@ -71,6 +71,9 @@ public final class DateTest {
         CHECKS.faultAtMark(dated("12↑3 Jan 1970 00:00 +0000"));
         CHECKS.faultAtMark(dated("1 ↑2 Jan 1970 00:00 +0000"));
         CHECKS.faultAtMark(dated("1 ↑January 1970 00:00 +0000"));
+        CHECKS.faultAtMark(dated("1 ↑Janz 1970 00:00 +0000"));
+        CHECKS.faultAtMark(dated("1 ↑JanZ 1970 00:00 +0000"));
+        CHECKS.faultAtMark(dated("↑zMon, 1 Jan 1970 00:00 +0000"));
         CHECKS.faultAtMark(dated("1 ↑Ja 1970 00:00 +0000"));
         CHECKS.faultAtMark(dated("1 ↑Thu 1970 00:00 +0000"));
         CHECKS.faultAtMark(dated("1 ↑J(x)an 1970 00:00 +0000"));

@@ -38,7 +38,8 @@ public final class PartsTest {
     private static void delimiters() {
         CHECKS.stands(HEAD + "--b\r\n\r\n\r\n--b--", 2);
         CHECKS.stands(HEAD + "\r\n--b \t \r\n\r\n\r\n--b-- \t\r\n", 2);
-        String inner = " --b\r\n--bb\r\n--b x\r\n--b-\r\n--b--x\r\n--b---\r\n--b ---\r\n--B\r\n-b\r\n--";
+        String inner = " --b\r\n--bb\r\n--b x\r\n--b-\r\n--b--x\r\n--b---\r\n--b ---\r\n--B\r\n-b\r\n"
+                + "x-b\r\n-xb\r\nx-b--\r\n--bx-\r\n--b-x\r\n--x\r\n--";
         MessageTree tree = CHECKS.stands(HEAD + inner + "\r\n--b\r\n\r\n" + inner + "\r\n--b--", 2);
         CHECKS.same("lines that are none", Mail.body(tree, 1), inner);
         String dashes = "content-type: multipart/mixed; boundary=\"b--\"\r\n\r\n";

@@ -56,6 +56,11 @@ public final class SubjectTest {
         staysAsItStands("=?us-ascii?q?" + "a".repeat(61) + "?=");
         staysAsItStands("x=?utf-8?q?a?=");
         staysAsItStands("=?utf-8?q?a?=x");
+        staysAsItStands("x?utf-8?q?a?=");
+        staysAsItStands("=xutf-8?q?a?=");
+        staysAsItStands("=?utf-8xq?a?=");
+        staysAsItStands("=?utf-8?qxa?=");
+        staysAsItStands("=?utf-8?q?a?x");
         staysAsItStands("=?utf-8?q?a?==?utf-8?q?b?=");
         staysAsItStands("=?utf-8?q?a");
         staysAsItStands("=?utf-8?q?a?");

@@ -1,3 +1,6 @@
+import java.nio.charset.StandardCharsets;
+import java.util.Base64;
+
 /** Promises 16, 17 and 18: write, out and again. */
 public final class WrittenTest {
     private static final Checks CHECKS = new Checks("WrittenTest");
@@ -11,6 +14,7 @@ public final class WrittenTest {
         parts();
         again();
         outStays();
+        dearest();
         CHECKS.finish();
     }
 
@@ -117,6 +121,24 @@ public final class WrittenTest {
                 CHECKS.refused("again of " + written, IllegalStateException.class, tree::again);
             }
         }
+    }
+
+    /** What is written of a full tape of short parts with many parameters and one long body is all there. */
+    private static void dearest() {
+        String type = "content-type:a/b;c=d;e=f;g=h;i=j;k=l;m=n\r\n";
+        String head = "content-type:multipart/x;boundary=b\r\n\r\n" + ("--b\r\n" + type + "x:\r\ny:\r\nz:\r\n\r\n\r\n").repeat(38)
+                + "--b\r\ncontent-transfer-encoding:binary\r\n\r\n";
+        String body = "\u00ff".repeat(900).concat("\r\n").repeat(9).substring(0, 8000 - head.length() - 7);
+        String part = "--part0\r\nx: \r\ny: \r\nz: \r\ncontent-type: a/b;\r\n c=\"d\";\r\n e=\"f\";\r\n g=\"h\";\r\n i=\"j\";\r\n k=\"l\";"
+                + "\r\n m=\"n\"\r\ncontent-transfer-encoding: base64\r\n\r\n\r\n";
+        writes(head + body + "\r\n--b--", "content-type: multipart/x;\r\n boundary=\"part0\"\r\n\r\n" + part.repeat(38)
+                + "--part0\r\n" + PLAIN + coded(body) + "\r\n--part0--");
+        String full = "\u00ff".repeat(998).concat("\r\n").repeat(8).substring(0, 8000 - 37);
+        writes("content-transfer-encoding: binary\r\n\r\n" + full, PLAIN + coded(full));
+    }
+
+    private static String coded(String body) {
+        return Base64.getMimeEncoder().encodeToString(body.getBytes(StandardCharsets.ISO_8859_1));
     }
 
     private static void outStays() {
