@@ -1093,16 +1093,9 @@ public final class MessageTree {
                 tape.fail(tape.place);
             }
             tape.step();
-            int first = tape.place;
-            int number = tape.digits(4);
-            int hours = number / 100;
-            int minutes = number % 100;
-            if (hours > 23) {
-                tape.fail(first);
-            }
-            if (minutes > 59) {
-                tape.fail(first + 2);
-            }
+            // The hours are judged before what stands behind them, be it no digit or the end.
+            int hours = readTwoDigits(23);
+            int minutes = readTwoDigits(59);
             return west ? -(hours * 60 + minutes) : hours * 60 + minutes;
         }
     }

@@ -109,8 +109,31 @@ public final class DateTest {
         CHECKS.faultAtMark(dated("1 Jan 1970 23:59:59 +↑2400"));
         CHECKS.faultAtMark(dated("1 Jan 1970 23:59:59 -↑9999"));
         CHECKS.faultAtMark(dated("1 Jan 1970 23:59:59 -23↑60"));
+        zoneHours();
         CHECKS.faultAtMark(dated("↑Fri, 1 Jan 1970 00:00 +0000"));
         CHECKS.faultAtMark(dated("(x) ↑Fri, 1 Jan 1970 00:00 +0000 (y)"));
+    }
+
+    private static void zoneHours() {
+        // Hours that may not be are a fault whatever follows them, also the end.
+        for (String sign : new String[] {"+", "-"}) {
+            for (String hours : new String[] {"24", "30", "99"}) {
+                for (String rest : new String[] {"", "x", "x0", "0", "0x", "00", "59", "60", "99", " 00", "(x)00", "\r\n 00",
+                        ":00", "000"}) {
+                    CHECKS.faultAtMark(dated("1 Jan 1970 00:00 " + sign + "↑" + hours + rest));
+                }
+            }
+            // One digit alone is no number yet, and hours that may be leave the fault to what follows.
+            CHECKS.faultAtMark(dated("1 Jan 1970 00:00 " + sign + "↑"));
+            CHECKS.faultAtMark(dated("1 Jan 1970 00:00 " + sign + "9↑"));
+            CHECKS.faultAtMark(dated("1 Jan 1970 00:00 " + sign + "9↑x00"));
+            CHECKS.faultAtMark(dated("1 Jan 1970 00:00 " + sign + "23↑"));
+            CHECKS.faultAtMark(dated("1 Jan 1970 00:00 " + sign + "23↑x0"));
+            CHECKS.faultAtMark(dated("1 Jan 1970 00:00 " + sign + "236↑x"));
+            CHECKS.faultAtMark(dated("1 Jan 1970 00:00 " + sign + "23↑600"));
+            CHECKS.faultAtMark(dated("1 Jan 1970 00:00 " + sign + "23↑60x"));
+        }
+        CHECKS.faultAtMark(dated("Fri, 1 Jan 1970 00:00 +↑24"));
     }
 
     private static void order() {
