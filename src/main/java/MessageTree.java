@@ -386,13 +386,12 @@ public final class MessageTree {
         /** Reads a TOKEN or an ATOM, by the set of its bytes. */
         void word(String set, Row into) {
             int count = 0;
-            // NONE makes a char that no set has.
-            while (count < WORD_LIMIT && set.indexOf((char) now) >= 0) {
+            while (count < WORD_LIMIT && isOneOf(set, now)) {
                 into.add(now);
                 step();
                 count++;
             }
-            if (count == 0 || set.indexOf((char) now) >= 0) {
+            if (count == 0 || isOneOf(set, now)) {
                 fail(place);
             }
         }

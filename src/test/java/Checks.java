@@ -1,11 +1,17 @@
 /** Counts answers, prints each that is not as due, and ends the run with code 1 if there was one. */
 final class Checks {
     private final String name;
+    private String asked = "";
     private int done;
     private int wrong;
 
     Checks(String name) {
         this.name = name;
+    }
+
+    /** Words of the document: what follows is due by them, and a wrong answer is printed with them. */
+    void asked(String words) {
+        asked = words;
     }
 
     void same(String what, long got, long due) {
@@ -41,17 +47,25 @@ final class Checks {
     /** A message has its fault at the mark ↑ (which is no part of it). */
     void faultAtMark(String marked) {
         int mark = marked.indexOf('↑');
-        String message = marked.substring(0, mark) + marked.substring(mark + 1);
         MessageTree tree = new MessageTree();
-        Mail.put(tree, message);
+        Mail.put(tree, Mail.withoutMark(marked));
         same("read of " + Mail.shown(marked), tree.read(), -1 - mark);
+    }
+
+    /** A message of one entity stands whole, mark or no mark, or has its fault at the mark. */
+    void standsOrFaults(String marked, boolean stands) {
+        if (stands) {
+            stands(Mail.withoutMark(marked), 1);
+        } else {
+            faultAtMark(marked);
+        }
     }
 
     private void judge(String what, boolean right, String got, String due) {
         done++;
         if (!right) {
             wrong++;
-            System.out.println(name + ": " + what + " answered " + got + ", due is " + due);
+            System.out.println(name + ": " + what + " answered " + got + ", due is " + due + " by: " + asked);
         }
     }
 

@@ -2,7 +2,38 @@ import java.util.function.IntUnaryOperator;
 
 /** Texts into a MessageTree, and out of it; a character is a byte. */
 final class Mail {
+    /** Numbers that are no place of anything: below 0 but NONE, and far too large. */
+    static final int[] NO_PLACES = {-2, Integer.MIN_VALUE, 8000, 1 << 16, Integer.MAX_VALUE - 1, Integer.MAX_VALUE};
+    /** All bytes but those of line ends. */
+    static final char[] BYTES = allBytes().toCharArray();
+    static final String LETTERS_DIGITS = "abcdefghijklmnopqrstuvwxyzABCDEFGHIJKLMNOPQRSTUVWXYZ0123456789";
+    static final String TOKEN_BYTES = LETTERS_DIGITS + "!#$%&'*+-.^_`{|}~";
+    static final String ATOM_BYTES = LETTERS_DIGITS + "!#$%&'*+-/=?^_`{|}~";
+
     private Mail() {
+    }
+
+    private static String allBytes() {
+        StringBuilder all = new StringBuilder();
+        for (char c = 0; c < 256; c++) {
+            if (c != 10 && c != 13) {
+                all.append(c);
+            }
+        }
+        return all.toString();
+    }
+
+    static boolean isIn(String set, char c) {
+        return set.indexOf(c) >= 0;
+    }
+
+    /** Whether a byte may stand in a field. */
+    static boolean inField(char c) {
+        return c >= 32 && c <= 126 || c == 9;
+    }
+
+    static String withoutMark(String marked) {
+        return marked.replace("↑", "");
     }
 
     /** The tape has this text alone. */
