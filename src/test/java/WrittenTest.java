@@ -21,6 +21,7 @@ public final class WrittenTest {
         partsOfNoBytes();
         readsBack();
         longLines();
+        twoFieldsMore();
         writeRefused();
         outAnswers();
         outStays();
@@ -243,6 +244,18 @@ public final class WrittenTest {
         second.again();
         CHECKS.same("read of a second line of 998", second.read(), 1);
         CHECKS.same("its text", second.letter(0, 0, 1, -1), 1000);
+    }
+
+    /** The plain form of a leaf has a type and a code of its own, and they count among its 20 fields. */
+    private static void twoFieldsMore() {
+        CHECKS.asked("At most 20 fields an entity, 200 in all.");
+        for (int count = 17; count <= 20; count++) {
+            MessageTree tree = CHECKS.stands("x: y\r\n".repeat(count) + "\r\n", 1);
+            tree.write();
+            tree.again();
+            int fault = count == 19 ? 19 * 6 + "content-type: text/plain\r\n".length() : 20 * 6;
+            CHECKS.same("read of what is written of " + count + " fields", tree.read(), count <= 18 ? 1 : -1 - fault);
+        }
     }
 
     private static void writeRefused() {
