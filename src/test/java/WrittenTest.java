@@ -275,6 +275,16 @@ public final class WrittenTest {
         CHECKS.same("write a second time", tree.write(), PLAIN.length());
         tree.read();
         CHECKS.same("write of the message that stays behind a fault", tree.write(), PLAIN.length());
+        MessageTree fed = new MessageTree();
+        Mail.put(fed, "\r\nab");
+        CHECKS.refused("write beside a tape", IllegalStateException.class, fed::write);
+        CHECKS.same("the tape stays behind a refused write", fed.read(), 1);
+        CHECKS.same("with its bytes", Mail.body(fed, 0), "ab");
+        Mail.put(fed, "\r\ncd");
+        CHECKS.same("write of the message, not of the tape", fed.write(), PLAIN.length() + 4);
+        CHECKS.same("its last byte but one", fed.out(PLAIN.length() + 2), 'I');
+        CHECKS.same("the tape stays behind a write", fed.read(), 1);
+        CHECKS.same("with its bytes", Mail.body(fed, 0), "cd");
     }
 
     private static void outAnswers() {
