@@ -256,6 +256,13 @@ public final class WrittenTest {
             int fault = count == 19 ? 19 * 6 + "content-type: text/plain\r\n".length() : 20 * 6;
             CHECKS.same("read of what is written of " + count + " fields", tree.read(), count <= 18 ? 1 : -1 - fault);
         }
+        String nine = "content-type: multipart/x; boundary=b\r\n\r\n" + ("--b\r\n" + "x: y\r\n".repeat(18) + "\r\n\r\n").repeat(9);
+        for (int count = 16; count <= 18; count++) {
+            MessageTree tree = CHECKS.stands(nine + "--b\r\n" + "x: y\r\n".repeat(count) + "\r\n\r\n--b--", 11);
+            int last = Mail.written(tree).lastIndexOf("content-transfer-encoding");
+            tree.again();
+            CHECKS.same("read of " + (183 + count) + " fields in all", tree.read(), count <= 17 ? 11 : -1 - last);
+        }
     }
 
     private static void writeRefused() {
